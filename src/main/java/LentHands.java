@@ -121,7 +121,7 @@ public final class LentHands {
     // A LAW's code: below ASK a NUMBER, then what is asked, then an operator by its token.
     private static final int ASK = 10000;
     private static final int OPERATOR = 20000;
-    // Eight that are open hold two values each, a comparison not more than four.
+    // B, and each of eight that can be open in it, hold two values, a comparison four: 22 at most.
     private static final int STACK = 32;
 
     private final World now = new World();

@@ -695,6 +695,7 @@ public final class PromiseTest {
         holds("hours = 3 and price = 4 and coin = 20 and child = 0", true);
         holds("own = 0 and chain = 0", true);
         holds("007 = worn", true);
+        holds("not (1 = 1 and (not 1 = 2))", false);
         holds("1 = 1 and (1 = 2)", false);
         holds("1 = 2 or (1 = 1 and (1 = 2 or 2 = 2))", true);
         LentHands x = people(2, 20);
@@ -704,6 +705,8 @@ public final class PromiseTest {
         due("the greatest is of kind 0", x.may(0, 1, 1, 0), 1);
         due("a right hand", x.may(1, 1, 1, 0), 0);
         due("no skill", x.may(2, 1, 1, 0), 0);
+        tell(x, 0, "may when best = 0; bar;");
+        due("best is 0", x.may(2, 1, 1, 0), 1);
     }
 
     private static void textOfTables() {
@@ -1462,6 +1465,9 @@ public final class PromiseTest {
         due("of several the least", x.callus(), 1);
         x.leave(2, 1);
         due("the office", x.callus(), 5);
+        x.set(6, 0, 99);
+        x.leave(0, 0);
+        due("hand 0 is the least", x.callus(), 0);
     }
 
     private static void turnsOf() {
