@@ -1,12 +1,5 @@
 /** For each promise of the document: ordinary calls, the edges it names, and wrong arguments, each worked out by hand. */
-public final class PromiseTest {
-    private static final int NONE = -1;
-    private static final int NO = -2;
-
-    private static int promise;
-    private static int count;
-    private static int wrong;
-
+public final class PromiseTest extends Checks {
     public static void main(String[] args) {
         newObject();
         state();
@@ -57,59 +50,13 @@ public final class PromiseTest {
         undo();
         image();
         look();
-        System.out.println(count + " answers, " + wrong + " wrong");
-        if (wrong > 0) {
-            System.exit(1);
-        }
-    }
-
-    private static void due(String call, int got, int want) {
-        count++;
-        if (got != want) {
-            wrong++;
-            System.out.println("promise " + promise + ": " + call + " answered " + got + ", due is " + want);
-        }
-    }
-
-    private static void due(String call, boolean got, boolean want) {
-        due(call, got ? 1 : 0, want ? 1 : 0);
-    }
-
-    /** An object with so many PEOPLE of that COIN, none a CHILD. */
-    private static LentHands people(int n, int coin) {
-        LentHands x = new LentHands();
-        for (int i = 0; i < n; i++) {
-            x.person(coin, 0);
-        }
-        return x;
-    }
-
-    private static int tell(LentHands x, int k, String s) {
-        for (int i = 0; i < s.length(); i += 20) {
-            int[] five = new int[5];
-            for (int j = 0; j < 20; j++) {
-                five[j / 4] = five[j / 4] << 8 | (i + j < s.length() ? s.charAt(i + j) : 32);
-            }
-            x.feed(five[0], five[1], five[2], five[3], five[4]);
-        }
-        x.end(s.length());
-        return x.text(k);
-    }
-
-    private static void faulty(LentHands x, int k, String s, int number, int place) {
-        due("text(" + k + ") of '" + s + "'", tell(x, k, s), NONE);
-        due("fault(0) of '" + s + "'", x.fault(0), number);
-        due("fault(1) of '" + s + "'", x.fault(1), place);
-    }
-
-    private static String times(String s, int n) {
-        return s.repeat(n);
+        close();
     }
 
     // ---- 1 to 4 ----
 
     private static void newObject() {
-        promise = 1;
+        about("promise 1");
         LentHands x = new LentHands();
         for (int what = 0; what < 12; what++) {
             due("look(" + what + ")", x.look(what), 0);
@@ -126,7 +73,7 @@ public final class PromiseTest {
     }
 
     private static void state() {
-        promise = 2;
+        about("promise 2");
         LentHands x = people(1, 0);
         due("state(7)", x.state(7), 0);
         due("state(MIN)", x.state(Integer.MIN_VALUE), 7);
@@ -156,7 +103,7 @@ public final class PromiseTest {
     }
 
     private static void person() {
-        promise = 3;
+        about("promise 3");
         LentHands x = new LentHands();
         due("coin -1", x.person(-1, 0), NONE);
         due("coin 10000", x.person(10000, 0), NONE);
@@ -179,7 +126,7 @@ public final class PromiseTest {
     }
 
     private static void set() {
-        promise = 4;
+        about("promise 4");
         LentHands x = people(2, 0);
         due("coin", x.set(0, 1, 9999), true);
         due("coin told", x.of(1, 0), 9999);
@@ -217,7 +164,7 @@ public final class PromiseTest {
     // ---- 5 to 10: acts ----
 
     private static void lend() {
-        promise = 5;
+        about("promise 5");
         LentHands x = people(4, 100);
         due("no such hand", x.lend(8, 0, 1, 0), NONE);
         due("hand -1", x.lend(-1, 0, 1, 0), NONE);
@@ -264,7 +211,7 @@ public final class PromiseTest {
     }
 
     private static void leave() {
-        promise = 6;
+        about("promise 6");
         LentHands x = people(2, 0);
         x.hours(2);
         due("leave", x.leave(1, 0), true);
@@ -282,7 +229,7 @@ public final class PromiseTest {
     }
 
     private static void fetch() {
-        promise = 7;
+        about("promise 7");
         LentHands x = people(3, 0);
         due("nothing to fetch", x.fetch(0, 0), false);
         x.leave(0, 0);
@@ -304,7 +251,7 @@ public final class PromiseTest {
     }
 
     private static void task() {
-        promise = 8;
+        about("promise 8");
         LentHands x = people(1, 0);
         due("kind 3", x.task(0, 3), true);
         due("told", x.of(0, 2), 3);
@@ -318,7 +265,7 @@ public final class PromiseTest {
     }
 
     private static void deed() {
-        promise = 9;
+        about("promise 9");
         LentHands x = people(3, 50);
         due("the head's without a law", x.deed(0, 0), 1);
         due("guilt", x.of(0, 3), 1);
@@ -347,7 +294,7 @@ public final class PromiseTest {
     }
 
     private static void hours() {
-        promise = 10;
+        about("promise 10");
         LentHands x = people(3, 10);
         due("0", x.hours(0), NONE);
         due("101", x.hours(101), NONE);
@@ -378,7 +325,7 @@ public final class PromiseTest {
     }
 
     private static void hoursOfTasks() {
-        promise = 10;
+        about("promise 10");
         LentHands x = people(3, 0);
         x.set(4, 0, 97);
         x.set(6, 0, 95);
@@ -450,7 +397,7 @@ public final class PromiseTest {
     }
 
     private static void hoursEndLoans() {
-        promise = 10;
+        about("promise 10");
         // The wrist of FROM is taken meanwhile: the HAND goes to the OFFICE, and not to its own.
         LentHands x = people(4, 0);
         x.lend(0, 1, 9, 0);
@@ -507,7 +454,7 @@ public final class PromiseTest {
     // ---- 11 to 14: texts ----
 
     private static void feed() {
-        promise = 11;
+        about("promise 11");
         LentHands x = people(1, 0);
         due("feed", x.feed(0x6d61793b, 0x6d61793b, 0, -1, 0x80000000), 20);
         x.end(8);
@@ -535,7 +482,7 @@ public final class PromiseTest {
     }
 
     private static void end() {
-        promise = 12;
+        about("promise 12");
         LentHands x = new LentHands();
         due("empty", x.end(0), true);
         due("1", x.end(1), false);
@@ -551,7 +498,7 @@ public final class PromiseTest {
     }
 
     private static void textOfLaws() {
-        promise = 13;
+        about("promise 13");
         LentHands x = people(1, 0);
         due("empty", x.text(0), 0);
         due("no such text", x.text(5), NONE);
@@ -577,7 +524,7 @@ public final class PromiseTest {
     }
 
     private static void textFaults() {
-        promise = 13;
+        about("promise 13");
         LentHands x = people(2, 0);
         faulty(x, 0, "may", 1, 3);
         faulty(x, 0, "may  ", 1, 5);
@@ -670,7 +617,7 @@ public final class PromiseTest {
     }
 
     private static void textReckons() {
-        promise = 13;
+        about("promise 13");
         holds("2 + 3 * 4 = 14", true);
         holds("20 - 3 - 4 = 13", true);
         holds("20 / 3 * 3 = 18", true);
@@ -710,7 +657,7 @@ public final class PromiseTest {
     }
 
     private static void textOfTables() {
-        promise = 13;
+        about("promise 13");
         LentHands x = people(2, 0);
         due("bookings", tell(x, 3, "lend 3 to 1 at 9999 for 99 price 99; lend 0 to 0 at 0 for 1;"), 2);
         due("price 0", tell(x, 3, "lend 3 to 1 at 9999 for 99 price 0;"), 1);
@@ -749,7 +696,7 @@ public final class PromiseTest {
     }
 
     private static void fault() {
-        promise = 14;
+        about("promise 14");
         LentHands x = people(1, 0);
         due("at first", x.fault(0), 0);
         due("at first", x.fault(1), NONE);
@@ -771,7 +718,7 @@ public final class PromiseTest {
     // ---- 15 to 18 ----
 
     private static void of() {
-        promise = 15;
+        about("promise 15");
         LentHands x = people(4, 5);
         due("what 8", x.of(0, 8), NO);
         due("what -1", x.of(0, -1), NO);
@@ -818,7 +765,7 @@ public final class PromiseTest {
     }
 
     private static void at() {
-        promise = 16;
+        about("promise 16");
         LentHands x = people(2, 50);
         x.set(5, 3, 44);
         x.set(6, 3, 55);
@@ -840,7 +787,7 @@ public final class PromiseTest {
     }
 
     private static void loan() {
-        promise = 17;
+        about("promise 17");
         LentHands x = people(3, 50);
         x.hours(1);
         x.lend(3, 0, 9, 1);
@@ -859,7 +806,7 @@ public final class PromiseTest {
     }
 
     private static void book() {
-        promise = 18;
+        about("promise 18");
         LentHands x = people(2, 0);
         x.hours(3);
         x.deed(0, 0);
@@ -889,7 +836,7 @@ public final class PromiseTest {
     // ---- 19 to 25 ----
 
     private static void may() {
-        promise = 19;
+        about("promise 19");
         LentHands x = people(2, 0);
         due("no law", x.may(0, 1, 99, 99), 1);
         tell(x, 0, "bar when own = 1; may when hours < 5; bar;");
@@ -918,7 +865,7 @@ public final class PromiseTest {
     }
 
     private static void can() {
-        promise = 20;
+        about("promise 20");
         LentHands x = people(2, 0);
         x.set(3, 0, 50);
         x.set(3, 1, 40);
@@ -941,7 +888,7 @@ public final class PromiseTest {
     }
 
     private static void pay() {
-        promise = 21;
+        about("promise 21");
         LentHands x = people(3, 0);
         due("no works", x.pay(0), 0);
         x.set(2, 0, 50);
@@ -977,7 +924,7 @@ public final class PromiseTest {
     }
 
     private static void back() {
-        promise = 22;
+        about("promise 22");
         LentHands x = people(3, 100);
         x.hours(2);
         due("now", x.back(), 2);
@@ -1018,7 +965,7 @@ public final class PromiseTest {
     }
 
     private static void where() {
-        promise = 23;
+        about("promise 23");
         LentHands x = people(3, 9);
         x.lend(0, 1, 4, 0);
         tell(x, 3, "lend 0 to 2 at 1 for 2 price 4;");
@@ -1047,7 +994,7 @@ public final class PromiseTest {
     }
 
     private static void fails() {
-        promise = 24;
+        about("promise 24");
         LentHands x = people(3, 3);
         due("none", x.fails(0), NONE);
         due("none", x.fails(1), NONE);
@@ -1077,7 +1024,7 @@ public final class PromiseTest {
     }
 
     private static void bare() {
-        promise = 25;
+        about("promise 25");
         LentHands x = people(3, 0);
         due("none", x.bare(), 0);
         x.leave(0, 0);
@@ -1096,7 +1043,7 @@ public final class PromiseTest {
     // ---- 26 to 31 ----
 
     private static void whose() {
-        promise = 26;
+        about("promise 26");
         LentHands x = people(3, 0);
         x.lend(0, 1, 5, 0);
         x.hours(1);
@@ -1119,7 +1066,7 @@ public final class PromiseTest {
     }
 
     private static void ask() {
-        promise = 27;
+        about("promise 27");
         LentHands x = people(3, 0);
         due("nothing tells them apart: the least", x.ask(63), 0);
         x.hours(1);
@@ -1144,7 +1091,7 @@ public final class PromiseTest {
     }
 
     private static void learns() {
-        promise = 28;
+        about("promise 28");
         LentHands x = people(2, 0);
         due("no law", x.learns(0, 0, 99), 0);
         tell(x, 1, "learn 2 when skill < 6; learn hour when hour = 3; learn kind + held; wear 5; learn 9 when worn = 30;");
@@ -1173,7 +1120,7 @@ public final class PromiseTest {
     }
 
     private static void safe() {
-        promise = 29;
+        about("promise 29");
         LentHands x = people(2, 0);
         due("no law", x.safe(0, 0, 99), 1000000);
         tell(x, 1, "scar 333;");
@@ -1199,7 +1146,7 @@ public final class PromiseTest {
     }
 
     private static void finds() {
-        promise = 30;
+        about("promise 30");
         LentHands x = people(3, 0);
         x.set(4, 0, 70);
         x.set(4, 3, 80);
@@ -1231,7 +1178,7 @@ public final class PromiseTest {
     }
 
     private static void dear() {
-        promise = 31;
+        about("promise 31");
         LentHands x = people(3, 50);
         due("what he has", x.dear(0, 1, 5), 10);
         due("downwards", x.dear(0, 1, 6), 8);
@@ -1262,7 +1209,7 @@ public final class PromiseTest {
     }
 
     private static void wishes() {
-        promise = 32;
+        about("promise 32");
         LentHands x = people(4, 0);
         x.set(2, 0, 50);
         x.set(2, 1, 50);
@@ -1307,7 +1254,7 @@ public final class PromiseTest {
     }
 
     private static void spread() {
-        promise = 33;
+        about("promise 33");
         LentHands x = people(3, 0);
         x.set(5, 1, 30);
         x.set(5, 4, 40);
@@ -1329,7 +1276,7 @@ public final class PromiseTest {
     }
 
     private static void out() {
-        promise = 34;
+        about("promise 34");
         LentHands x = people(3, 0);
         due("none", x.out(0), 0);
         x.lend(0, 1, 2, 0);
@@ -1348,7 +1295,7 @@ public final class PromiseTest {
     }
 
     private static void judged() {
-        promise = 35;
+        about("promise 35");
         LentHands x = people(3, 9);
         due("no law", x.judged(0, 0, 5), 1);
         x.lend(0, 1, 9, 1);
@@ -1372,7 +1319,7 @@ public final class PromiseTest {
     }
 
     private static void loophole() {
-        promise = 36;
+        about("promise 36");
         LentHands x = people(2, 0);
         due("no law", x.loophole(0, 0), NONE);
         tell(x, 2, "head when held < 3; hand when held = 3; head when held < 99; none when own = 1 and held > 99;");
@@ -1394,7 +1341,7 @@ public final class PromiseTest {
     }
 
     private static void premium() {
-        promise = 37;
+        about("promise 37");
         LentHands x = people(2, 0);
         due("no law", x.premium(0, 99), 0);
         tell(x, 1, "scar 100 * kind when left = 1; scar 10;");
@@ -1415,7 +1362,7 @@ public final class PromiseTest {
     }
 
     private static void chain() {
-        promise = 38;
+        about("promise 38");
         LentHands x = people(4, 0);
         due("none", x.chain(0, 0), NONE);
         x.lend(0, 1, 9, 0);
@@ -1435,7 +1382,7 @@ public final class PromiseTest {
     }
 
     private static void owes() {
-        promise = 39;
+        about("promise 39");
         LentHands x = people(3, 0);
         x.lend(0, 1, 9, 0);
         x.lend(5, 1, 9, 0);
@@ -1453,7 +1400,7 @@ public final class PromiseTest {
     }
 
     private static void callus() {
-        promise = 40;
+        about("promise 40");
         LentHands x = people(3, 0);
         x.set(6, 5, 99);
         due("all at home", x.callus(), NONE);
@@ -1471,7 +1418,7 @@ public final class PromiseTest {
     }
 
     private static void turnsOf() {
-        promise = 41;
+        about("promise 41");
         LentHands x = new LentHands();
         due("one hour", x.turnsOf(1, 1, 9, 0), 1);
         due("1 to 9", x.turnsOf(60, 1, 9, 0), 6);
@@ -1497,7 +1444,7 @@ public final class PromiseTest {
     // ---- 42 to 44 ----
 
     private static void undo() {
-        promise = 42;
+        about("promise 42");
         LentHands x = people(2, 20);
         due("nothing", x.undo(), false);
         tell(x, 1, "scar 1000; pay 3;");
@@ -1583,7 +1530,7 @@ public final class PromiseTest {
     }
 
     private static void image() {
-        promise = 43;
+        about("promise 43");
         LentHands x = people(2, 20);
         due("none", x.image(false), false);
         x.state(77);
@@ -1649,7 +1596,7 @@ public final class PromiseTest {
     }
 
     private static void look() {
-        promise = 44;
+        about("promise 44");
         LentHands x = people(3, 9);
         x.state(-9);
         tell(x, 0, "may;");
