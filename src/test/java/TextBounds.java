@@ -93,6 +93,8 @@ final class TextBounds extends Sentences {
         so("8 = worn", false);
         so("7 > worn", false);
         so("8 > worn", true);
+        so("8 > worn and 6 < worn and 7 = worn", true);
+        so("not (8 > worn and 6 < worn and 7 = worn)", false);
         so("not 1 = 2", true);
         so("not 1 = 1", false);
         so("not not 1 = 1", true);
@@ -178,6 +180,9 @@ final class TextBounds extends Sentences {
         x.hours(1);
         due("loan(0, 4)", x.loan(0, 4), 3);
         due("loan(1, 4)", x.loan(1, 4), 0);
+        tell(x, 3, "lend 0 to 0 at 1 for 1;");
+        x.hours(1);
+        due("no price is left of a text ahead", x.of(0, 0), 18);
         tell(x, 4, "work 0 needs 0 pays 1 both; work 0 needs 0 pays 1;");
         due("one hand is not both", x.can(0, 0), 0);
         due("one hand", x.can(0, 1), 1);
@@ -255,6 +260,20 @@ final class TextBounds extends Sentences {
         lines(x, 0, "may when hours = 1;", 1);
         faulty(x, 0, "may when 1 = 1 nor 1 = 1;", 1, 15);
         faulty(x, 2, "hand when 1 = 1 to 1;", 1, 16);
+        // What was on the TAPE ahead and lies behind its end does not belong to the word.
+        onTape(x, "may when left = left;");
+        x.end(12);
+        due("text(0) of 'may when lef'", x.text(0), NONE);
+        due("its place", x.fault(1), 9);
+        onTape(x, "may;     ");
+        x.end(2);
+        due("text(0) of 'ma'", x.text(0), NONE);
+        due("its place", x.fault(1), 0);
+        onTape(x, "may when 1 = 1234");
+        x.end(16);
+        onTape(x, "=23;");
+        due("text(0) of 'may when 1 = 123=23;'", x.text(0), NONE);
+        due("its place", x.fault(1), 16);
         // Only letters make words: a digit ends one, and begins another token.
         lines(x, 0, "may when0=left;", 1);
         faulty(x, 0, "may0;", 1, 3);
@@ -349,6 +368,10 @@ final class TextBounds extends Sentences {
         faulty(x, 0, "may\n\n ", 1, 6);
         faulty(x, 0, "may" + times(" ", 397), 1, 400);
         faulty(x, 0, "may" + times(" ", 396) + ".", 1, 399);
+        faulty(x, 0, times(";", 400), 1, 0);
+        faulty(x, 1, "pay 1" + times("+", 395), 1, 6);
+        faulty(x, 1, "pay" + times(" ", 396) + "1", 1, 400);
+        lines(x, 1, "pay 1" + times("+1", 197) + ";", 1);
         lines(x, 0, "may" + times(" ", 396) + ";", 1);
         lines(x, 0, times(" ", 400), 0);
         lines(x, 0, "", 0);

@@ -53,6 +53,19 @@ final class ThoughtBounds extends Sentences {
         due("may", x.may(0, 1, 1, 1), 1);
         due("all is as it was", all(x).equals(ahead), true);
         due("three can be undone still", x.look(10), 3);
+        // In each way of looking ahead no scar comes, by which the LAW would bar the BOOKING.
+        x = people(2, 0);
+        tell(x, 0, "bar when scars > 0;");
+        tell(x, 1, "scar 1000;");
+        tell(x, 3, "lend 3 to 0 at 2 for 4;");
+        x.lend(0, 1, 3, 0);
+        x.task(1, 0);
+        due("back", x.back(), 6);
+        due("where", x.where(3, 3), 0);
+        due("out", x.out(3), 0b1010);
+        due("fails", x.fails(0), NONE);
+        due("no draw", x.look(4), 0);
+        due("but then it is scarred", x.hours(3), 1);
     }
 
     /** All that is told by what asks about two PEOPLE, in some 110 calls. */
@@ -451,6 +464,10 @@ final class ThoughtBounds extends Sentences {
         due("he has it", x.finds(1, 2, 90, 5), NONE);
         x.lend(6, 1, 5, 0);
         due("in the office", x.finds(3, 2, 90, 5), NONE);
+        x = people(8, 0);
+        x.set(2, 15, 1);
+        due("the last of sixteen", x.finds(0, 0, 1, 1), 15);
+        due("none of sixteen", x.finds(0, 0, 2, 1), NONE);
     }
 
     private static void dear() {
@@ -539,6 +556,24 @@ final class ThoughtBounds extends Sentences {
         wish(x, 2, 4, 1, NONE, 1);
         x.lend(1, 0, 9, 0);
         wish(x, 2, 4, NO, NO, NO);
+        // The last hands of eight PEOPLE; and a right hand never serves for the left side, nor a left one for the right.
+        x = people(8, 0);
+        x.set(2, 14, 9);
+        x.set(2, 15, 9);
+        tell(x, 4, "work 0 needs 9 pays 1; work 0 needs 9 pays 1 both;");
+        wish(x, 0, 0, 1, NONE, 15);
+        wish(x, 0, 1, 2, 14, 15);
+        x.set(2, 1, 9);
+        x.set(2, 5, 9);
+        wish(x, 6, 1, 2, 14, 1);
+        x.set(2, 2, 9);
+        wish(x, 6, 1, 2, 2, 1);
+        x.set(2, 15, 0);
+        wish(x, 6, 0, 1, NONE, 1);
+        x.set(2, 1, 0);
+        x.set(2, 5, 0);
+        wish(x, 6, 0, 1, 2, NONE);
+        wish(x, 6, 1, NO, NO, NO);
     }
 
     private static void spread() {

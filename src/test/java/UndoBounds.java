@@ -94,6 +94,21 @@ final class UndoBounds extends Sentences {
         due("six hours less", x.at(15, 3), 27);
         due("no more", x.undo(), false);
         due("six hours less", x.look(1), 3);
+        // The eldest of six LOANS ends, and the others move up; then they are as they were.
+        x = people(7, 0);
+        for (int i = 0; i < 6; i++) {
+            x.lend(2 * i, 6, i == 0 ? 1 : 9 - i, 0);
+        }
+        x.hours(1);
+        due("the eldest then", x.loan(0, 0), 2);
+        due("the latest then", x.loan(4, 0), 10);
+        x.undo();
+        for (int i = 0; i < 6; i++) {
+            int[] want = {2 * i, i, 6, i == 0 ? 1 : 9 - i, 0};
+            for (int what = 0; what < 5; what++) {
+                due("loan(" + i + ", " + what + ")", x.loan(i, what), want[what]);
+            }
+        }
     }
 
     private static void sixAreKept() {
