@@ -304,6 +304,15 @@ final class PromiseBounds extends Sentences {
         due("the last is not so", x.may(0, 0, 1, 0), 1);
         tell(x, 0, "bar when 0" + times("+1", 60) + "=60;");
         due("this is", x.may(0, 0, 1, 0), 0);
+        // Nothing of a longer TEXT stays behind a shorter one.
+        tell(x, 0, "bar when not 1 = 1; bar when not 1 = 1;");
+        tell(x, 0, "bar when 1 = 1;");
+        due("so alone", x.may(0, 0, 1, 0), 0);
+        tell(x, 0, "bar when 1 = 2;");
+        due("not so alone", x.may(0, 0, 1, 0), 1);
+        tell(x, 2, "hand when 1 = 2; none;");
+        tell(x, 2, "hand when 1 = 2;");
+        due("no second line", x.judged(0, 0, 0), 1);
     }
 
     private static void people() {

@@ -339,6 +339,10 @@ final class TextBounds extends Sentences {
         so("6 / 7 = 0", true);
         so("7 / 7 = 1", true);
         so("13 / 7 = 1", true);
+        so("7 / 1 = 7", true);
+        so("9999 / 1 = 9999", true);
+        so("9999 / 9999 = 1", true);
+        so("9998 / 9999 = 0", true);
         // 9999 * 9999 * 22 wraps to -2095407274.
         so("9999 * 9999 * 22 / 1000 = 0 - 2095 * 1000 - 407", true);
         so("9999 * 9999 * 22 / 7274 = 0 - 288 * 1000 - 68", true);
