@@ -740,23 +740,27 @@ public final class LentHands {
             return NONE - 1;
         }
         if (canDo(person, work)) {
-            return what == 0 ? 0 : NONE;
+            return wished(what, 0, NONE, NONE);
         }
         int right = oneWish(person, work, 1);
         if (right != NONE) {
-            return what == 0 ? 1 : what == 1 ? NONE : right;
+            return wished(what, 1, NONE, right);
         }
         int left = oneWish(person, work, 0);
         if (left != NONE) {
-            return what == 0 ? 1 : what == 1 ? left : NONE;
+            return wished(what, 1, left, NONE);
         }
         for (left = 0; left < 2 * now.people; left += 2) {
             right = secondWish(person, work, left);
             if (right != NONE) {
-                return what == 0 ? 2 : what == 1 ? left : right;
+                return wished(what, 2, left, right);
             }
         }
         return NONE - 1;
+    }
+
+    private static int wished(int what, int loans, int left, int right) {
+        return what == 0 ? loans : what == 1 ? left : right;
     }
 
     /** The least HAND of a side by the LOAN of which alone the PERSON can do the WORK. */

@@ -90,6 +90,9 @@ public final class FuzzTest {
                 text(k);
             }
         }
+        if (below(60) == 0) {
+            nearTheLastHour();
+        }
         int style = below(3);
         for (int i = 0; i < CALLS && !wrong; i++) {
             if (below(3) == 0) {
@@ -103,6 +106,14 @@ public final class FuzzTest {
                 compareAll();
             }
         }
+    }
+
+    private void nearTheLastHour() {
+        int hundreds = 98 + below(2);
+        for (int i = 0; i < hundreds; i++) {
+            due("hours(100)", x.hours(100), m.hours(100));
+        }
+        text(3);
     }
 
     private void person() {
